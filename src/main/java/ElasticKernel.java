@@ -305,8 +305,9 @@ public final class ElasticKernel {
             return phase == LEAVING || phase == IN_FORCE && solvedPeriod > period;
         }
 
+        /** Never of one that is LEAVING: no solve gives it a load, what stands here is an old one. */
         boolean isPressedFlat() {
-            return shortest != longest && solvedLoad.compare(cost, longest) == 0;
+            return isSolved() && shortest != longest && solvedLoad.compare(cost, longest) == 0;
         }
 
         void release(int now, boolean mayShorten) {

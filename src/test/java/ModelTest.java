@@ -468,7 +468,8 @@ public final class ModelTest {
             if (task == null || what < 0 || what > 7) {
                 return -1;
             }
-            boolean isFlat = task.load.compareTo(task.least) == 0 && task.least.compareTo(task.full) != 0;
+            boolean isFlat = task.phase != 2 && task.load.compareTo(task.least) == 0
+                    && task.least.compareTo(task.full) != 0;
             int[] answers = {task.phase, task.period, task.phase == 2 ? task.period : task.solved, task.end, task.needs,
                 task.ends, task.latestEnd, isFlat ? 1 : 0};
             return answers[what];

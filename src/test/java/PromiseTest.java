@@ -45,6 +45,7 @@ public final class PromiseTest {
         tickLengthensBeforeTheInstant();
         taskTellsAll();
         taskTellsWhoIsFlat();
+        taskTellsNoLoadOfWhoLeaves();
         rateTellsWords();
         totalTellsWords();
         stateTellsAll();
@@ -466,6 +467,33 @@ public final class PromiseTest {
         due("7: just as far as flat", kernel.task(1, FLAT), 1);
         due("7: as far, not flat", kernel.task(2, FLAT), 0);
         due("7: as far", kernel.task(2, SOLVED), 8);
+    }
+
+    private static void taskTellsNoLoadOfWhoLeaves() {
+        ElasticKernel kernel = new ElasticKernel();
+        kernel.add(1, 1, 4, 8, 1);
+        kernel.add(2, 1, 2, 4, 1);
+        kernel.add(3, 1, 2, 4, 1000);
+        kernel.load(700);
+        due("7: flat and ANNOUNCED", kernel.task(1, FLAT), 1);
+        kernel.tick(1);
+        due("7: flat and IN FORCE", kernel.task(1, FLAT), 1);
+        kernel.leave(1);
+        task("7: flat once, LEAVING", kernel, 1, LEAVING, 8, 8, 8, 1, 0, 0, 0);
+        due("7: flat, and stays", kernel.task(2, FLAT), 1);
+        due("7: the stiff one is not", kernel.task(3, FLAT), 0);
+        kernel.load(625);
+        due("7: LEAVING, and all others give way", kernel.task(1, FLAT), 0);
+        kernel.tick(7);
+        due("7: LEAVING till the end", kernel.task(1, FLAT), 0);
+        kernel.tick(1);
+        due("7: gone", kernel.task(1, FLAT), NONE);
+        kernel.load(500);
+        kernel.add(1, 1, 4, 8, 1);
+        due("7: REFUSED, not there", kernel.task(1, FLAT), NONE);
+        kernel.load(625);
+        kernel.add(1, 1, 4, 8, 1);
+        due("7: there again, flat again", kernel.task(1, FLAT), 1);
     }
 
     // Promise 8
