@@ -91,6 +91,8 @@ final class Promise04Test extends Cases {
         due("1000 again", kernel.load(1000), true);
         due("ALLOWED", kernel.state(ALLOWED), 1000);
         due("full yet", kernel.task(1, SOLVED), 2);
+        // The document is not plain here: the promise calls each load() that is true a change.
+        due("a solve", kernel.state(SOLVES), 3);
     }
 
     void addGoesByWhatIsAllowedNow() {
