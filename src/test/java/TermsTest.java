@@ -1,3 +1,5 @@
+import java.math.BigInteger;
+
 /** The terms: the solve, the INSTANT, what a task is, and fractions. */
 final class TermsTest extends Cases {
     public static void main(String[] args) {
@@ -349,6 +351,69 @@ final class TermsTest extends Cases {
         kernel.add(2, 1, 4097, 4097, 1);
         totalWords("8193", kernel, ABOVE, 8193, 0);
         totalWords("2^24 + 2^12", kernel, BELOW, 4096, 1, 0);
+    }
+
+    /** Great primes all over, so that hardly anything falls out. */
+    void fractionsOfTheMostWords() {
+        int[] shortest = {18899, 18869, 18859, 18839, 18803, 18797, 18793, 18787, 18773, 18757, 18749, 18743};
+        int[] stiffness = {997, 991, 983, 977, 971, 967, 953, 947, 941, 937, 929, 919};
+        ElasticKernel kernel = loadsFitTheTerms(shortest, stiffness, 991);
+        for (int id = 1; id <= 12; id++) {
+            due("more than ten words", wholeRate(kernel, id, BELOW).bitLength() > 240, true);
+        }
+    }
+
+    void fractionsWithManyCommonFactors() {
+        int[] shortest = {18900, 18880, 18864, 18840, 18816, 18810, 18800, 18792, 18780, 18768, 18750, 18720};
+        int[] stiffness = {1000, 990, 984, 980, 975, 972, 968, 960, 945, 936, 924, 900};
+        for (int allowed = 990; allowed <= 1000; allowed++) {
+            loadsFitTheTerms(shortest, stiffness, allowed);
+        }
+    }
+
+    /** Puts the loads back into the terms, with the library's big numbers. */
+    private ElasticKernel loadsFitTheTerms(int[] shortest, int[] stiffness, int allowed) {
+        ElasticKernel kernel = new ElasticKernel();
+        for (int i = 0; i < shortest.length; i++) {
+            due("there is room", kernel.add(i + 1, 1600, shortest[i], 20000, stiffness[i]), 0);
+        }
+        kernel.load(allowed);
+        BigInteger[] sum = fraction(0, 1);
+        BigInteger[] v = null;
+        for (int i = 0; i < shortest.length; i++) {
+            BigInteger above = wholeRate(kernel, i + 1, ABOVE);
+            BigInteger below = wholeRate(kernel, i + 1, BELOW);
+            due("no common factors", above.gcd(below).equals(BigInteger.ONE), true);
+            due("not flat", kernel.task(i + 1, FLAT), 0);
+            sum = plus(sum, above, below);
+            BigInteger[] given = plus(fraction(1600, shortest[i]), above.negate(), below);
+            given[0] = given[0].multiply(BigInteger.valueOf(stiffness[i]));
+            v = v == null ? given : v;
+            due("one v for all", isSame(v, given), true);
+        }
+        due("they come to what is ALLOWED", isSame(sum, fraction(allowed, 1000)), true);
+        return kernel;
+    }
+
+    private static BigInteger[] fraction(int above, int below) {
+        return new BigInteger[] {BigInteger.valueOf(above), BigInteger.valueOf(below)};
+    }
+
+    private static BigInteger wholeRate(ElasticKernel kernel, int id, int part) {
+        BigInteger whole = BigInteger.ZERO;
+        for (int k = 15; k >= 0; k--) {
+            whole = whole.shiftLeft(24).add(BigInteger.valueOf(kernel.rate(id, part, k)));
+        }
+        return whole;
+    }
+
+    private static BigInteger[] plus(BigInteger[] fraction, BigInteger above, BigInteger below) {
+        BigInteger newAbove = fraction[0].multiply(below).add(above.multiply(fraction[1]));
+        return new BigInteger[] {newAbove, fraction[1].multiply(below)};
+    }
+
+    private static boolean isSame(BigInteger[] one, BigInteger[] other) {
+        return one[0].multiply(other[1]).equals(other[0].multiply(one[1]));
     }
 
     private static ElasticKernel softPair() {
