@@ -27,7 +27,9 @@ public final class FaceTest {
         for (Class<?> inner : face.getDeclaredClasses()) {
             due(inner.getSimpleName() + " is private or package-visible", "" + isSeen(inner.getModifiers()), "false");
             due(inner.getSimpleName() + " is static", "" + Modifier.isStatic(inner.getModifiers()), "true");
+            due(inner.getSimpleName() + "'s methods with public names", namesTwice(face, inner).toString(), "[]");
         }
+        due("private methods with public names", namesTwice(face, face).toString(), "[]");
         System.out.println(wrong == 0 ? "the face is as due" : wrong + " things are not as due");
         if (wrong != 0) {
             System.exit(1);
@@ -52,6 +54,24 @@ public final class FaceTest {
             }
         }
         return members;
+    }
+
+    /** LANGUAGE.md, rule 1, read strictly: of the classes inside too. */
+    private static Set<String> namesTwice(Class<?> face, Class<?> owner) {
+        Set<String> names = new TreeSet<>();
+        for (Method method : owner.getDeclaredMethods()) {
+            if (owner != face || Modifier.isPrivate(method.getModifiers())) {
+                names.add(method.getName());
+            }
+        }
+        Set<String> seen = new TreeSet<>();
+        for (Method method : face.getDeclaredMethods()) {
+            if (Modifier.isPublic(method.getModifiers())) {
+                seen.add(method.getName());
+            }
+        }
+        names.retainAll(seen);
+        return names;
     }
 
     private static boolean isSeen(int modifiers) {
